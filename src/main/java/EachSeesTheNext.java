@@ -565,7 +565,6 @@ public final class EachSeesTheNext {
             figures[houses] = figure;
             cells[houses] = cell;
             wicks[houses] = FIRST_WICKS;
-            called &= ~(1 << houses);
             houses++;
             return true;
         }

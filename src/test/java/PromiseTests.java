@@ -349,6 +349,12 @@ public final class PromiseTests {
         due("3: fault 1 behind much", tell(x, "c009;hc000;m000;w050;u1;f9;n05;n0"), -1000 - 33);
         same("3: nothing of it came", state(x), before);
         due("3: no letters are left", x.letter('c'), 1);
+        x.land();
+        x.heaps(7, 6);
+        x.moves(0, 1);
+        due("3: a land goes on from what was changed by calls", tell(x, "f4;"), 1);
+        due("3: the height stays", x.height(7), 6);
+        due("3: the cell stays", x.house(0, 2), 1);
     }
 
     // ---- 4, and the kinds ----
@@ -509,6 +515,8 @@ public final class PromiseTests {
         refused("12: nights(1) in night 999", x, -6, () -> x.nights(1));
         EachSeesTheNext y = told("hc019;");
         range("12: nights", y, 1, 60, y::nights);
+        due("12: asleep in night 1, not in 2", told("hm019;").nights(1), 0);
+        due("12: awake in night 2, not in 3", told("hm019;").nights(2), 1);
     }
 
     // ---- 13 .. 17 ----
@@ -591,9 +599,9 @@ public final class PromiseTests {
         EachSeesTheNext y = told("hc019;w099;");
         due("17: nobody in sixty nights", y.first(0), -9);
         due("17: whole now", y.first(1), 0);
-        y.gives(0, 99);
         EachSeesTheNext z = told("hc019;w040;");
         due("17: in the sixtieth", z.first(0), 0);
+        due("17: not behind sixty", told("hc019;w041;").first(0), -9);
         due("17: never whole", told("hm019;hs019;hl018;").first(1), -9);
         due("17: without houses", new EachSeesTheNext().first(1), 0);
         due("17: without houses", new EachSeesTheNext().first(0), -9);
@@ -627,6 +635,12 @@ public final class PromiseTests {
         due("18: nothing is between 19 and the sea", told("hl019;").sees(0), 128);
         due("18: seven houses and the sea", told("hc019;".repeat(7)).sees(6), 0x3f | 128);
         due("18: 20 cells are not too far", told("hc000;").sees(0), 128);
+        // From 6 at cell 3 to 2 at cell 11 the line is at 4 over cell 7.
+        EachSeesTheNext z = told("ht803;c031;c111;hc011;c073;c194;");
+        due("18: from hill to hill", z.sees(0), 2);
+        due("18: and back", z.sees(1), 1);
+        z.heaps(7, 4);
+        due("18: not if the hill between is as high", z.sees(0) + z.sees(1), 0);
     }
 
     private static void hill() {
@@ -670,6 +684,8 @@ public final class PromiseTests {
         due("20: 32 is too high", x.leastEye(0), -9);
         x.heaps(13, 2);
         due("20: 30 is not", x.leastEye(0), 30);
+        x.heaps(13, 1);
+        due("20: 31 is too high", x.leastEye(0), -9);
         x.moves(0, 19);
         due("20: nothing between", x.leastEye(0), 0);
         x.moves(0, 17);
@@ -692,6 +708,7 @@ public final class PromiseTests {
         due("21: 2 and 3 are left", x.cut(1), 2);
         due("21: only 1 is needed", x.cut(2), 1 << 1);
         noWhat("21: cut", x, 2, x::cut);
+        due("21: the first may be needed", told("f7;hc014;hc008;").cut(2), 1);
         EachSeesTheNext y = told("hs000;");
         due("21: nobody is lit", y.cut(0), -9);
         due("21: nobody is lit", y.cut(1), -9);
@@ -721,24 +738,24 @@ public final class PromiseTests {
 
     private static void fell() {
         EachSeesTheNext x = told("c051;c153;hc000;hc010;");
-        // Over 3 at 15 nobody sees the sea; without it 10 does, and 0 neither it nor 10 over 5.
-        due("23: the greater hill", x.fell(), 15);
+        // 15 hides the sea from both; without it 10 hangs, but 5 still hides 10 and the sea from 0.
+        due("23: the hill towards the sea", x.fell(), 15);
         due("23: nothing was felled", x.height(15), 3);
         x.heaps(15, 0);
         due("23: then the other", x.fell(), 5);
         x.heaps(5, 0);
         due("23: nobody more can hang", x.fell(), -9);
-        // Two hills, each of which alone keeps all in the dark.
+        // Two hills, each of which hides the sea by itself.
         EachSeesTheNext y = told("c159;c169;hc000;");
         due("23: one alone helps nothing", y.fell(), -9);
         due("23: without houses", new EachSeesTheNext().fell(), -9);
-        // Fog lets nobody at 0 see far; the ground below a house may be what keeps it high.
-        EachSeesTheNext z = told("c104;c114;c123;hc010;hc011;hc019;f0;");
+        // The eyes are at 5 on their own ground: from 10 the line at 12 is 4 down to the sea.
+        EachSeesTheNext z = told("c104;c114;c123;hc010;hc011;hc019;");
         due("23: all hang now", z.count(4), 7);
         due("23: so none is felled", z.fell(), -9);
-        // From 10 the hill at 14 and from 9 the same: of several none, but one by which two come.
-        EachSeesTheNext w = told("c142;hc010;hc009;");
-        due("23: two at once", w.fell(), 14);
+        due("23: two at once", told("c142;hc010;hc009;").fell(), 14);
+        // 17 is shut in by 16 towards the mirror and by 18 towards the sea.
+        due("23: of several the least", told("c163;c182;hm914;hc017;").fell(), 16);
     }
 
     private static void raise() {
@@ -757,6 +774,8 @@ public final class PromiseTests {
         due("24: raising one who sleeps helps nobody", z.raise(), -9);
         z.heaps(15, 1);
         due("24: the lit one", z.raise(), 1);
+        // The eyes 1 and 1 would need 4 and 4 to see one another over 3 at 10.
+        due("24: one alone is raised", told("c103;hc005;hc015;").raise(), -9);
         due("24: without houses", new EachSeesTheNext().raise(), -9);
     }
 
@@ -779,6 +798,9 @@ public final class PromiseTests {
         EachSeesTheNext z = told("hs019;u0;n20;w001;u0;");
         due("25: a wick burns once only, now or later", z.call(1), 0);
         due("25: now it must be now", z.call(0), 1);
+        // Three with a wick each: the cottage hangs in night 20 only, by either of two who sleep in it.
+        EachSeesTheNext w = told("n01;f7;hs014;hs014;hc008;u0;u1;n19;u0;u1;");
+        due("25: of several the least", w.call(1), 1);
     }
 
     private static void news() {
@@ -799,6 +821,9 @@ public final class PromiseTests {
         due("26: by the other", x.news(0, 1), 3);
         noHouse("26: news", x, h -> x.news(h, 5));
         noWhat("26: news", x, 1, w -> x.news(0, w));
+        EachSeesTheNext y = told("f7;hc014;hc008;hc002;");
+        due("26: as many as there are", y.news(2, 0), 3);
+        due("26: next 0", y.news(1, 1), 0);
     }
 
     private static void farthest() {
@@ -868,6 +893,9 @@ public final class PromiseTests {
     private static void highest() {
         EachSeesTheNext x = new EachSeesTheNext();
         due("32: all alike", x.highest(), 0);
+        x.heaps(1, 1);
+        due("32: the second", x.highest(), 1);
+        x.heaps(1, 0);
         x.heaps(19, 1);
         due("32: the last", x.highest(), 19);
         x.heaps(7, 5);
@@ -883,14 +911,23 @@ public final class PromiseTests {
         due("33: two old ones", x.two(0, 2), 11);
         // Sleeper, figure 0: awake in 1, 3, 5: 6 either way, so that not is first.
         due("33: as much is not more", x.two(1, 3), 0);
+        due("33: for the first neither", x.two(3, 1), 0);
         due("33: who is called stays so", x.house(0, 4), 0);
+        // The old one is seen by the sleeper alone: 4 by sleeping, 0 by sitting up alone, 6 only if both did.
+        EachSeesTheNext w = told("f7;ho008;hs014;");
+        due("33: each alone, not both together", w.two(0, 1), 0);
+        due("33: told the other way", w.two(1, 0), 0);
         x.calls(0);
         due("33: whether called now is nothing to it", x.two(0, 1), 10);
-        // Sitting up costs 6 nights though it hangs in 1 alone (2 wicks).
-        EachSeesTheNext y = told("ho019;u0;n60;w002;u0;n05;hc000;");
-        due("33: night 65, lit there: one night either way", y.two(0, 1), 0);
-        EachSeesTheNext z = told("ho019;u0;n60;w002;u0;hc000;");
-        due("33: night 60, asleep now, lit in 61: the wicks serve once", z.two(0, 1), 0);
+        // Wicks for one night in the first, for four in the second: from night 60 they would hang in 61, in
+        // 61 and 65. Called, they would hang in 60 (2 - 6), in 60 .. 63 (8 - 6): less than 2, and than 4.
+        EachSeesTheNext y = told("ho019;ho019;u0;u1;n60;w002;w108;u0;u1;");
+        due("33: sitting up costs the nights, too, in which it does not hang", y.two(0, 1), 0);
+        // With ten wicks it hangs in five nights called: 10 - 6 is as much as 4 for 61 and 65.
+        y.gives(1, 2);
+        due("33: as much is not more", y.two(0, 1), 0);
+        y.gives(1, 2);
+        due("33: six nights are", y.two(0, 1), 1);
         for (int h : new int[] {MIN, -1, 4, MAX}) {
             refused("33: two(" + h + ", 0)", x, -1, () -> x.two(h, 0));
             refused("33: two(0, " + h + ")", x, -1, () -> x.two(0, h));
