@@ -55,7 +55,7 @@ public final class ModelTests {
                 if (UNSETTLING.contains(m.getName()) && random.nextInt(3) != 0) {
                     continue;
                 }
-                args = arguments(random, m, real);
+                args = arguments(random, m, model);
             }
             Object got = m.invoke(real, args);
             Object due = Model.class.getMethod(m.getName(), m.getParameterTypes()).invoke(model, args);
@@ -77,7 +77,8 @@ public final class ModelTests {
         throw new IllegalStateException(name);
     }
 
-    private static Object[] arguments(Random random, Method m, EachSeesTheNext x) {
+    // The model is asked what would fit, so that the class is called no oftener than 512 times.
+    private static Object[] arguments(Random random, Method m, Model x) {
         Object[] args = new Object[m.getParameterCount()];
         for (int i = 0; i < args.length; i++) {
             args[i] = argument(random, m.getName(), i, x);
@@ -85,7 +86,7 @@ public final class ModelTests {
         return args;
     }
 
-    private static int argument(Random random, String name, int i, EachSeesTheNext x) {
+    private static int argument(Random random, String name, int i, Model x) {
         if (random.nextInt(40) == 0) {
             return EXTREMES[random.nextInt(EXTREMES.length)];
         }
