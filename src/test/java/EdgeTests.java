@@ -12,6 +12,7 @@ public final class EdgeTests {
         theSea();
         heightsOfLines();
         sevenHouses();
+        theSeventhIsAsAny();
         severalInOneCell();
         wicksAtMost99();
         atFirst();
@@ -111,6 +112,49 @@ public final class EdgeTests {
         Check.due("houses: the seventh's bit", x.count(3), 127);
         Check.due("houses: all hang", x.count(4), 127);
         Check.due("houses: all wicks", x.count(5), 140);
+    }
+
+    private static void theSeventhIsAsAny() {
+        Counted last = Told.land("hc019;".repeat(6) + "hc018;w020;w120;w220;w320;w420;w520;");
+        Check.due("seventh: burns out first", last.first(0), 6);
+        Check.due("seventh: behind 20", last.dark(6), 20);
+        Check.due("seventh: wicks then", last.wicksThen(6, 19), 1);
+        Check.due("seventh: lit then", last.litThen(20), 63);
+        Check.due("seventh: hanging then", last.hangThen(19), 127);
+        Check.due("seventh: none more for 19 nights", last.share(19), -9);
+        Check.due("seventh: the wick goes to it", last.share(20), 6);
+        Check.due("seventh: all have spent", last.spend(60), 6 * 40 + 20);
+        Check.due("seventh: longest", last.longest(60), 7);
+        Check.due("seventh: two", last.two(5, 6), 0);
+        Check.due("seventh: whole", last.first(1), 0);
+        Counted low = Told.land("hs000;".repeat(6) + "c191;hc018;");
+        Check.due("seventh: raised", low.raise(), 6);
+        Check.due("seventh: felled for it", low.fell(), 19);
+        Check.due("seventh: least eye", low.leastEye(6), 3);
+        Counted far = Told.land("f9;" + "hc018;".repeat(6) + "hc016;");
+        Check.due("seventh: two off", far.farthest(), 6);
+        Check.due("seventh: mist", far.mist(6, 7, 20, 1), 1);
+        Counted alone = Told.land("f9;" + "hc000;".repeat(6) + "hc019;");
+        Told.row(alone, 0);
+        Check.due("seventh: without it", alone.whoSlept(), 64);
+        Check.due("seventh: what it is", alone.whatIs(6, 0), 4 | 8 | 32);
+        Check.due("seventh: calls", Told.land("hc019;".repeat(6) + "hs019;").call(0), 64);
+        sevenByLot();
+    }
+
+    // Each burns two of the WICKS it draws in the NIGHTS 1 .. 4, and sees the SEA from any CELL.
+    private static void sevenByLot() {
+        // MIN (and 0) draw WICKS 2 4 0 2 0 4 4, then 1 2 0 0 0 0 3; MAX draws 0 2 4 2 4 0 1, then 4 3 4 0 1 3 3.
+        Counted x = Told.land("hs000;".repeat(7) + "n01;");
+        Check.due("lots of seven: MIN, wicks", x.lots(1, MIN, 1), 6);
+        Check.due("lots of seven: MIN, hanging", x.lots(1, MIN, 0), 3);
+        Check.due("lots of seven: MIN twice, wicks", x.lots(2, MIN, 1), 7);
+        Check.due("lots of seven: MIN twice, hanging", x.lots(2, MIN, 0), 4);
+        Check.due("lots of seven: 0 twice, wicks", x.lots(2, 0, 1), 7);
+        Check.due("lots of seven: MAX, wicks", x.lots(1, MAX, 1), 4);
+        Check.due("lots of seven: MAX, hanging", x.lots(1, MAX, 0), 2);
+        Check.due("lots of seven: MAX twice, wicks", x.lots(2, MAX, 1), 11);
+        Check.due("lots of seven: MAX twice, hanging", x.lots(2, MAX, 0), 7);
     }
 
     // "a CELL (several may be in one)"; "Two in one CELL SEE one another."
@@ -412,6 +456,7 @@ public final class EdgeTests {
         Check.due("call(11), as many", x.call(11), 0);
         Check.due("call(12), as many", x.call(12), 0);
         lastNightOfCall();
+        moreThanAllCalled();
         Check.due("call: nobody", new Counted().call(0), 0);
         Check.due("call: seven who sleep", Told.land("hs019;".repeat(7)).call(0), 127);
         Check.due("call: not those who are called now", Told.land("hc019;hc019;u0;u1;").call(12), 0);
@@ -437,6 +482,18 @@ public final class EdgeTests {
         Check.due("call(12) with twelve wicks", x.call(12), 0);
         x.gives(0, 1);
         Check.due("call(12) with thirteen wicks", x.call(12), 1);
+    }
+
+    // "as many HANG as, were all CALLED, or more"
+    private static void moreThanAllCalled() {
+        // 2 (two WICKS) sees the SEA by 0 or 1 (a WICK each) alone; 1 sleeps in NIGHT 20. All CALLED, three hang in
+        // 20 and nobody in 21; none CALLED, two in each.
+        Counted x = Told.in(1, "hc019;hs019;u1;n01;hc018;c199;n18;");
+        x.calls(1);
+        Check.due("call: NIGHT 20", x.count(1), 20);
+        Check.due("call: wicks", x.house(0, 3) * 100 + x.house(1, 3) * 10 + x.house(2, 3), 112);
+        Check.due("call: now the second", x.call(0), 2);
+        Check.due("call: four are more than three", x.call(1), 0);
     }
 
     // "over how many HOUSES at least it goes to the SEA"; "-9"; "7 the SEA"
